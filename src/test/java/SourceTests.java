@@ -1,0 +1,1 @@
+final class SourceTests { static void source(String[] a) {} }
