@@ -597,10 +597,10 @@ final class PromiseTests {
 
     private static void idle() {
         LongestTokens x = made("0:a;0:a|b;0:b;1:b;0:.?;0:c+;0:cc", "");
+        x.matches(0, 0);
         due("idle()", x.idle(), 1 << 2 | 1 << 6);
         Check.row("idle()", x, 2);
         LongestTokens none = made("0:a;1:a", "");
-        none.cut();
         due("idle() without any", none.idle(), 0);
         Check.row("idle() without any", none, 0);
         LongestTokens noRules = new LongestTokens();
@@ -617,6 +617,7 @@ final class PromiseTests {
         due("overlap(0, 5)", x.overlap(0, 5), -2);
         due("overlap(2, 3)", x.overlap(2, 3), -3);
         due("overlap(3, 2)", x.overlap(3, 2), -3);
+        due("overlap(5, 0)", x.overlap(5, 0), -2);
         due("the same one twice", x.overlap(2, 2), -1);
         int[][] wrong = {{-1, 0}, {0, -1}, {6, 0}, {0, 6}, {3, 6}, {MIN, MAX}, {7, 7}};
         for (int[] pair : wrong) {
@@ -720,6 +721,9 @@ final class PromiseTests {
         }
         Check.row("becomes() refused", x, 1, 3, 0);
         due("what can be undone", x.count(3), 3);
+        LongestTokens at = made("0:a;0:b;0:c", "abab");
+        due("becomes(2, 2)", at.becomes(2, 2), 4);
+        Check.row("a place at the change is not behind it", at, 1, 2, 1);
         LongestTokens never = made("0:a>1;0:b;1:b;1:a", "abbb");
         due("becomes(0, 1)", never.becomes(0, 1), 4);
         Check.row("MODES that are never as they were", never, 0, 4, 0);
@@ -731,6 +735,7 @@ final class PromiseTests {
     private static void comes() {
         LongestTokens x = made("0:a;0:b", "abab");
         due("comes(2, 1)", x.comes(2, 1), 5);
+        // The place behind the b that was there is not behind the change, the one behind the b that came is.
         Check.row("comes(2, 1)", x, 1, 2, 2);
         due("the LINE then", Check.lineOf(x).equals("abbab") ? 1 : 0, 1);
         due("comes(5, 7) at the end", x.comes(5, 7), 6);
@@ -768,6 +773,9 @@ final class PromiseTests {
             due("goes(" + wrong + ")", x.goes(wrong), -1);
         }
         Check.row("goes() refused", x, 3, 1, 0);
+        LongestTokens at = made("0:a;0:b", "abab");
+        due("goes(2) of abab", at.goes(2), 3);
+        Check.row("a place at a sign that went is behind it", at, 1, 1, 1);
         LongestTokens first = made("0:ab|c", "cabcab");
         due("goes(0)", first.goes(0), 3);
         Check.row("goes(0)", first, 0, 1, 2);
