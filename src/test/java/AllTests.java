@@ -32,6 +32,9 @@ public final class AllTests {
             run("promise " + number, () -> PromiseTests.promise(number));
         }
         run("refused calls", PromiseTests::refusedCalls);
+        for (Edges.Edge edge : Edges.all()) {
+            run(edge.name(), () -> edge.test().run());
+        }
         run("random runs against the model", ModelTests::randomRuns);
         run("random texts against the model", ModelTests::randomTexts);
         run("any arguments", ModelTests::anyArguments);
