@@ -1,3 +1,5 @@
+import java.util.List;
+
 /** Runs every test of the project; ends with exit code 1 if one fails. */
 public final class AllTests {
     private interface Test {
@@ -32,9 +34,11 @@ public final class AllTests {
             run("promise " + number, () -> PromiseTests.promise(number));
         }
         run("refused calls", PromiseTests::refusedCalls);
-        for (Edges.Edge edge : Edges.all()) {
+        List<Edges.Edge> edges = Edges.all();
+        for (Edges.Edge edge : edges) {
             run(edge.name(), () -> edge.test().run());
         }
+        run("the sentences are the document's", () -> DocumentTests.sentences(args, edges));
         run("random runs against the model", ModelTests::randomRuns);
         run("random texts against the model", ModelTests::randomTexts);
         run("any arguments", ModelTests::anyArguments);

@@ -19,15 +19,11 @@ final class ChangeEdges extends Edges {
         row();
     }
 
-    private interface Question {
-        long answer(LongestTokens x);
-    }
-
     /** A call that is refused: the LINE, what can be undone and the ROW stay. */
-    private static void refuses(String line, long want, Question question) {
+    private static void refuses(String line, long want, Call call) {
         LongestTokens x = made("0:a;0:b", line);
         x.modes(-1);
-        due("answer", question.answer(x), want);
+        due("answer", call.answer(x), want);
         lineIs(x, line);
         due("count(3)", x.count(3), 2);
         Check.row("refused", x, 0);
@@ -156,8 +152,8 @@ final class ChangeEdges extends Edges {
     }
 
     private void mends() {
-        says(34, "By which sign (0 .. 7, of equal ones the first; the one that is there, too) at place q there would be "
-            + "the fewest STUCK TOKENS: it; the ROW: how many.");
+        says(34, "By which sign (0 .. 7, of equal ones the first; the one that is there, too) at place q there would "
+            + "be the fewest STUCK TOKENS: it; the ROW: how many.");
         edge("the first sign", () -> {
             LongestTokens x = made("0:a", "b");
             tells("mends(0)", x, x.mends(0), 0, 0);
@@ -213,8 +209,8 @@ final class ChangeEdges extends Edges {
             Check.day(x, "");
             due("count(3)", x.count(3), 2);
         });
-        says(35, "CHANGES one behind another, without signs between: r, a place, a sign a .. h (becomes()), i, a place, a "
-            + "sign (comes()), d, a place (goes());");
+        says(35, "CHANGES one behind another, without signs between: r, a place, a sign a .. h (becomes()), i, a "
+            + "place, a sign (comes()), d, a place (goes());");
         edge("one of each", () -> {
             dayIs("ab", "r00h", "hb", 1, 0);
             dayIs("ab", "i02h", "abh", 1, 0);
@@ -255,6 +251,11 @@ final class ChangeEdges extends Edges {
         edge("the last one can't be", () -> dayIs("ab", "d00d01", "b", 1, 1));
         edge("those behind it are not done", () -> dayIs("ab", "d00d01d00", "b", 1, 1));
         edge("all can be", () -> dayIs("ab", "d00d00", "", 2, 0));
+        edge("the RULES stay", () -> {
+            LongestTokens x = made("0:a;0:b", "ab");
+            Check.day(x, "d00");
+            due("count(0)", x.count(0), 2);
+        });
         edge("becomes() answers -2", () -> dayIs("ab", "r00ad00", "ab", 0, 1));
         edge("becomes() answers NONE", () -> dayIs("ab", "r02ad00", "ab", 0, 1));
         edge("comes() answers -3", () -> dayIs(LINE_24, "i00ad00", LINE_24, 0, 1));
@@ -349,6 +350,11 @@ final class ChangeEdges extends Edges {
         edge("nine", () -> manyUndone(9, 9));
         edge("eleven", () -> manyUndone(11, 10));
         edge("thirty", () -> manyUndone(30, 10));
+        edge("the latest ten of up to 60", () -> {
+            for (int calls = 1; calls <= 60; calls++) {
+                undoneInTurn(calls);
+            }
+        });
         edge("ten, some undone, others done", () -> {
             LongestTokens x = made("", "a");
             for (int i = 0; i < 12; i++) {
@@ -370,7 +376,7 @@ final class ChangeEdges extends Edges {
     }
 
     /** One call that can be undone, done and undone. */
-    private static void undone(String rules, String line, Question call) {
+    private static void undone(String rules, String line, Call call) {
         LongestTokens x = made(rules, line);
         String state = stateOf(x);
         due("the call", call.answer(x) >= 0, true);
@@ -395,6 +401,21 @@ final class ChangeEdges extends Edges {
         due("one more", x.undo(), -1);
         if (calls < 24) {
             due("signs that are left", x.count(1), calls - canBe);
+        }
+    }
+
+    /** The LINES ahead of the latest ten of so many calls come back, the latest first. */
+    private static void undoneInTurn(int calls) {
+        LongestTokens x = made("", A_24);
+        String[] lines = new String[calls + 1];
+        lines[0] = A_24;
+        for (int i = 0; i < calls; i++) {
+            due("becomes()", x.becomes(i % 24, 1 + i / 24), 24);
+            lines[i + 1] = Check.lineOf(x);
+        }
+        for (int i = calls - 1; i >= 0 && i >= calls - 10; i--) {
+            x.undo();
+            lineIs(x, lines[i]);
         }
     }
 
@@ -459,6 +480,13 @@ final class ChangeEdges extends Edges {
             lineIs(x, "abcde");
             x.undo();
             lineIs(x, "");
+        });
+        edge("RULES of 80 signs", () -> {
+            LongestTokens x = made("0:a" + "*".repeat(75) + ">3", "ab");
+            Check.rules(x, "0:a" + "*".repeat(75) + ">1");
+            due("rule(0, 3)", x.rule(0, 3), 1);
+            x.undo();
+            due("rule(0, 3)", x.rule(0, 3), 3);
         });
         edge("none is done once more", () -> {
             LongestTokens x = made("0:a", "ab");
@@ -550,8 +578,8 @@ final class ChangeEdges extends Edges {
     }
 
     private void years() {
-        says(37, "n times (1 .. 20; it is forgotten): a DRAW of 3: 0: a DRAW of 24, a DRAW of 8: becomes(); 1: the same: "
-            + "comes(); 2: a DRAW of 24: goes()");
+        says(37, "n times (1 .. 20; it is forgotten): a DRAW of 3: 0: a DRAW of 24, a DRAW of 8: becomes(); 1: the "
+            + "same: comes(); 2: a DRAW of 24: goes()");
         edge("once", () -> {
             for (int seed = 0; seed < 40; seed++) {
                 yearsAreAsChanges(seed, 1, "abcbaabcab");
@@ -567,8 +595,8 @@ final class ChangeEdges extends Edges {
             x.years(3, 20);
             due("count(3)", x.count(3), 2);
         });
-        says(37, "(what is refused is not done): how many TOKENS there would be then; the ROW: how many STUCK ones, how "
-            + "many signs the LINE would have, signs READ WITH MEMORY.");
+        says(37, "(what is refused is not done): how many TOKENS there would be then; the ROW: how many STUCK ones, "
+            + "how many signs the LINE would have, signs READ WITH MEMORY.");
         edge("of an empty LINE", () -> {
             for (int seed = 0; seed < 40; seed++) {
                 yearsAreAsChanges(seed, 3, "");
@@ -592,8 +620,8 @@ final class ChangeEdges extends Edges {
             refuses("ah", -1, x -> x.years(1, MIN));
             refuses("ah", -1, x -> x.years(1, MAX));
         });
-        says(37, "A DRAW of n: R = R times 1103515245 + 12345 (as ints; R is seed at first), (R without sign, by 65536) "
-            + "% n.");
+        says(37, "A DRAW of n: R = R times 1103515245 + 12345 (as ints; R is seed at first), (R without sign, by "
+            + "65536) % n.");
         edge("seeds whose R is below 0", () -> {
             for (int seed = 1; seed < 40; seed++) {
                 yearsAreAsChanges(-seed, 7, "abcbaabcab");
@@ -638,6 +666,15 @@ final class ChangeEdges extends Edges {
             due("keep(0)", x.keep(0), true);
             due("again(0)", x.again(0), true);
             due("like(0)", x.like(0), 0);
+        });
+        edge("RULES of 80 signs and a LINE of 24", () -> {
+            LongestTokens x = made("0:a" + "*".repeat(75) + ">3", LINE_24);
+            x.keep(0);
+            Check.rules(x, "0:a" + "*".repeat(75) + ">1");
+            Check.line(x, A_24);
+            x.again(0);
+            due("rule(0, 3)", x.rule(0, 3), 3);
+            lineIs(x, LINE_24);
         });
         edge("under a number that is taken", () -> {
             LongestTokens x = made("0:a", "ab");
@@ -713,9 +750,9 @@ final class ChangeEdges extends Edges {
     }
 
     private void count() {
-        says(40, "What 0: RULES, 1: signs of the LINE, 2: TOKENS, 3: what can be undone, 4: numbers of the ROW, 5: signs "
-            + "of THE TEXT, 6: the most MODES on one another at any time of CUTTING, 7: LETTERS of all RULES, 8: MODES "
-            + "that have RULES (bits).");
+        says(40, "What 0: RULES, 1: signs of the LINE, 2: TOKENS, 3: what can be undone, 4: numbers of the ROW, 5: "
+            + "signs of THE TEXT, 6: the most MODES on one another at any time of CUTTING, 7: LETTERS of all RULES, "
+            + "8: MODES that have RULES (bits).");
         edge("of a new object", () -> {
             long[] want = {0, 0, 0, 0, 0, 0, 1, 0, 0};
             LongestTokens x = new LongestTokens();

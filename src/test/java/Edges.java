@@ -7,6 +7,14 @@ abstract class Edges {
         void run();
     }
 
+    interface Question {
+        long answer(int i);
+    }
+
+    interface Call {
+        long answer(LongestTokens x);
+    }
+
     /** What a sentence of the document asks at one boundary. Promise 0: the Terms; -1: what stands ahead of them. */
     record Edge(int promise, String sentence, String what, Test test) {
         String name() {
@@ -82,6 +90,15 @@ abstract class Edges {
         for (int what = 0; what < want.length; what++) {
             due("token(" + k + ", " + what + ")", x.token(k, what), want[what]);
         }
+    }
+
+    /** What is asked with each of some wrong numbers, and that the ROW stays. */
+    static void refuses(String name, LongestTokens x, Question question, long want, int... wrong) {
+        x.modes(-1);
+        for (int i : wrong) {
+            due(name + "(" + i + ")", question.answer(i), want);
+        }
+        Check.row(name + "() refused", x, 0);
     }
 
     /** What rules() answers to a text. */

@@ -15,21 +15,8 @@ final class RuleEdges extends Edges {
         same();
     }
 
-    private interface Question {
-        long answer(int i);
-    }
-
     private interface Stretch {
         long answer(LongestTokens x, int i, int j);
-    }
-
-    /** What is asked with each of some wrong numbers, and that the ROW stays. */
-    private static void refuses(String name, LongestTokens x, Question question, long want, int... wrong) {
-        x.modes(-1);
-        for (int i : wrong) {
-            due(name + "(" + i + ")", question.answer(i), want);
-        }
-        Check.row(name + "() refused", x, 0);
     }
 
     private static void refusesStretch(String line, Stretch stretch, int i, int j) {
@@ -150,6 +137,10 @@ final class RuleEdges extends Edges {
         edge("one of MODE 3", () -> {
             LongestTokens x = made("0:a;3:b;3:.", "b");
             tells("matches(0, 1)", x, x.matches(0, 1), 6, -1, -1, -1, 1);
+        });
+        edge("the last of eight RULES", () -> {
+            LongestTokens x = made("0:a;1:a;2:a;3:a;0:b;1:b;2:b;3:c", "c");
+            tells("matches(0, 1)", x, x.matches(0, 1), 128, -1, -1, -1, 7);
         });
         edge("no RULES", () -> {
             LongestTokens x = made("", "b");
@@ -372,8 +363,8 @@ final class RuleEdges extends Edges {
     }
 
     private void ways() {
-        says(27, "In how many ways the signs from place i up to j (not j) can be cut into rows (one sign at least) that "
-            + "RULES of MODE 0 MATCH (ACTS are not done; 1,000,000 at most): how many;");
+        says(27, "In how many ways the signs from place i up to j (not j) can be cut into rows (one sign at least) "
+            + "that RULES of MODE 0 MATCH (ACTS are not done; 1,000,000 at most): how many;");
         edge("no signs", () -> {
             LongestTokens x = made("0:a", "ab");
             tells("ways(0, 0)", x, x.ways(0, 0), 1, 0);
@@ -424,6 +415,10 @@ final class RuleEdges extends Edges {
             LongestTokens x = made("", "a");
             tells("ways(0, 1)", x, x.ways(0, 1), 0, -1);
         });
+        edge("fewer without the longest row", () -> {
+            LongestTokens x = made("0:a|aaaa|aaaaa", A_24);
+            tells("ways(0, 8)", x, x.ways(0, 8), 11, 2);
+        });
         edge("24 of one sign each", () -> {
             LongestTokens x = made("0:.", LINE_24);
             tells("ways(0, 24)", x, x.ways(0, 24), 1, 24);
@@ -435,8 +430,8 @@ final class RuleEdges extends Edges {
     }
 
     private void fewest() {
-        says(28, "The fewest rows into which ways() cuts the signs from place i up to j (not j): how many; the ROW: the "
-            + "place behind each (of as few the first such row of places).");
+        says(28, "The fewest rows into which ways() cuts the signs from place i up to j (not j): how many; the ROW: "
+            + "the place behind each (of as few the first such row of places).");
         edge("no signs", () -> {
             LongestTokens x = made("0:a", "ab");
             x.cut();
@@ -466,6 +461,10 @@ final class RuleEdges extends Edges {
         edge("the first such, though it ends with longer ones", () -> {
             LongestTokens x = made("0:aa|aaaa|aaa", "aaaaaaaaa");
             tells("fewest(0, 9)", x, x.fewest(0, 9), 3, 2, 5, 9);
+        });
+        edge("fewer without the longest row", () -> {
+            LongestTokens x = made("0:a|aaaa|aaaaa", A_24);
+            tells("fewest(0, 8)", x, x.fewest(0, 8), 2, 4, 8);
         });
         says(28, "-2: there is no way;");
         edge("the last sign is no row", () -> refusesFewest("ab", 0, 2));
@@ -529,8 +528,8 @@ final class RuleEdges extends Edges {
     }
 
     private void same() {
-        says(30, "1 if STANDING of a MODE behind the signs from place i up to j (not j) is the same as behind those from "
-            + "k up to l (not l), else 0; the ROW: how many LETTERS STAND behind both.");
+        says(30, "1 if STANDING of a MODE behind the signs from place i up to j (not j) is the same as behind those "
+            + "from k up to l (not l), else 0; the ROW: how many LETTERS STAND behind both.");
         edge("the same stretch", () -> {
             LongestTokens x = made("0:a*b", "ab");
             tells("same(0, 0, 1, 0, 1)", x, x.same(0, 0, 1, 0, 1), 1, 1);

@@ -78,6 +78,18 @@ final class TermEdges extends Edges {
             LongestTokens x = made("0:a=2", "a");
             tells("modes(0)", x, x.modes(0), 1, 2);
         });
+        edge("= of the highest MODE, = to it", () -> {
+            LongestTokens x = made("0:a=3;3:b=0;0:c=1;1:d=2", "abcd");
+            tells("modes(0)", x, x.modes(0), 1, 3);
+            tells("modes(1)", x, x.modes(1), 1, 0);
+            tells("modes(2)", x, x.modes(2), 1, 1);
+            tells("modes(3)", x, x.modes(3), 1, 2);
+        });
+        edge("= leaves those below", () -> {
+            LongestTokens x = made("0:a=3;3:b>1;1:c=2;2:d=0", "abcd");
+            tells("modes(2)", x, x.modes(2), 2, 3, 2);
+            tells("modes(3)", x, x.modes(3), 2, 3, 0);
+        });
         edge("= of five MODES", () -> {
             LongestTokens x = made("0:a>0;0:b=3", "aaaab");
             tells("modes(4)", x, x.modes(4), 5, 0, 0, 0, 0, 3);
@@ -105,6 +117,17 @@ final class TermEdges extends Edges {
         });
         edge("a ) more than (", () -> rulesTell("0:(a))", -6));
         edge("a ( more than )", () -> rulesTell("0:((a)", -7));
+        edge("( WAY ) behind a PART and ahead of one", () -> {
+            LongestTokens x = made("0:a(b|c)*d", "acbdbd");
+            due("matches(0, 4)", x.matches(0, 4), 1);
+            due("matches(4, 6)", x.matches(4, 6), 0);
+            due("MATCHES no signs", x.rule(0, 4), 0);
+        });
+        edge("( WAY ) in ( WAY )", () -> {
+            LongestTokens x = made("0:((a)(b|(c)))d", "acd");
+            due("matches(0, 3)", x.matches(0, 3), 1);
+            due("matches(1, 3)", x.matches(1, 3), 0);
+        });
         says(TERMS, "any many of * + ? (so often as one likes; that, but once at least; once or not).");
         edge("none and many", () -> rulesTell("0:ab*+?*+?*+?*+?", 1));
         edge("one ahead of a PART", () -> {
@@ -174,6 +197,17 @@ final class TermEdges extends Edges {
         edge("an empty LINE", () -> {
             LongestTokens x = made("1:a", "");
             tells("modes(NONE)", x, x.modes(-1), 1, 0);
+        });
+        edge("each time that a LINE is cut", () -> {
+            LongestTokens x = made("0:a>1;1:b", "aab");
+            for (int again = 0; again < 3; again++) {
+                due("line()", Check.line(x, "aab"), 3);
+                tokenIs(x, 0, 0, 0, 1, 2, 0, 2);
+                tells("modes(2)", x, x.modes(2), 2, 0, 1);
+                due("count(6)", x.count(6), 2);
+            }
+            Check.line(x, "");
+            due("count(6) of an empty LINE", x.count(6), 1);
         });
         says(TERMS, "at most 5: of a sixth that comes the lowest goes;");
         edge("the fifth", () -> {
@@ -260,7 +294,12 @@ final class TermEdges extends Edges {
             LongestTokens x = made("0:a=1;1:a=0;0:a*b;1:a*b", "aaaaa");
             tells("read()", x, x.read(), 15, 5 + 4 + 2 + 2 + 1, 4 + 3);
         });
-        edge("with the place", () -> {
+        edge("with the place behind the sign", () -> {
+            LongestTokens x = made("0:a*b", "aac");
+            // The second TOKEN comes to what the first one came to behind place 1; behind place 2 that was DEAD.
+            tells("read()", x, x.read(), 3 + 2 + 1, 3 + 1 + 1, 2);
+        });
+        edge("with another place", () -> {
             LongestTokens x = made("0:a*b", "acac");
             // The same STANDING behind place 0 and behind place 2.
             tells("read()", x, x.read(), 2 + 1 + 2 + 1, 6, 2);
@@ -446,6 +485,23 @@ final class TermEdges extends Edges {
             due("what is kept", x.again(1), true);
             lineIs(x, "abcbac");
         });
+        edge("those that answer that there is none", () -> {
+            LongestTokens x = busy();
+            for (Asked asked : none(x)) {
+                String state = stateOf(x);
+                due(asked.name() + " is below NONE", asked.call().answer() < -1, true);
+                due("the state behind " + asked.name(), stateOf(x), state);
+            }
+        });
+        edge("each what of rule(), token() and count()", () -> {
+            LongestTokens x = busy();
+            x.cut();
+            String state = stateOf(x);
+            long[] row = Check.rowOf(x);
+            askEachWhat(x);
+            due("the state", stateOf(x), state);
+            Check.row("the ROW", x, row);
+        });
         says(TERMS, "Refused calls answer NONE, or false, and change nothing but THE TEXT,");
         edge("each of them", () -> {
             LongestTokens x = busy();
@@ -464,6 +520,34 @@ final class TermEdges extends Edges {
             due("keep(-1)", x.keep(-1), false);
             due("again(0)", x.again(0), false);
             due("again(2)", x.again(2), false);
+            due("the state", stateOf(x), state);
+        });
+        edge("undo() of none", () -> {
+            LongestTokens x = busy();
+            x.again(1);
+            x.cut();
+            String state = stateOf(x);
+            due("undo()", x.undo(), -1);
+            due("the state", stateOf(x), state);
+            Check.row("the ROW", x, 3, 4, 6);
+        });
+        edge("sign() beyond 80", () -> {
+            LongestTokens x = busy();
+            for (int i = 1; i < 20; i++) {
+                x.sign(0);
+            }
+            String state = stateOf(x);
+            due("sign()", x.sign(0), -1);
+            due("the state", stateOf(x), state);
+        });
+        edge("texts that can't be read", () -> {
+            LongestTokens x = busy();
+            x.end(0);
+            String state = stateOf(x);
+            due("rules()", Check.rules(x, "0:a|"), -5);
+            due("rules()", Check.rules(x, "0:aaaaaaaaaaa"), -100);
+            due("line()", Check.line(x, "abi"), -3);
+            due("day()", Check.day(x, "d00d"), -5);
             due("the state", stateOf(x), state);
         });
         edge("those of an object without anything", () -> {
@@ -487,13 +571,21 @@ final class TermEdges extends Edges {
                 asked.call().answer();
                 due("count(5) behind " + asked.name(), x.count(5), 4);
             }
+            for (Asked asked : none(x)) {
+                asked.call().answer();
+                due("count(5) behind " + asked.name(), x.count(5), 4);
+            }
+            askEachWhat(x);
+            due("count(5) behind each what", x.count(5), 4);
             x.becomes(0, 6);
             x.comes(0, 6);
             x.goes(0);
             x.sheet(0, 3, 0, 0);
             x.undo();
+            x.sheet(3, 0, 0, 0);
             x.keep(0);
             x.again(0);
+            x.undo();
             due("count(5) behind changes", x.count(5), 4);
         });
         says(TERMS, "NONE comes ahead of other answers below 0;");
@@ -542,6 +634,27 @@ final class TermEdges extends Edges {
             new Asked("row", () -> x.row(0)));
     }
 
+    private static void askEachWhat(LongestTokens x) {
+        for (int what = 0; what < 9; what++) {
+            x.count(what);
+        }
+        for (int what = 0; what < 5; what++) {
+            x.rule(0, what);
+        }
+        for (int what = 0; what < 6; what++) {
+            x.token(0, what);
+        }
+    }
+
+    private static List<Asked> none(LongestTokens x) {
+        return List.of(new Asked("modes(9)", () -> x.modes(9)), new Asked("by(4)", () -> x.by(4)),
+            new Asked("like(0)", () -> x.like(0)), new Asked("longest(2, 0)", () -> x.longest(2, 0)),
+            new Asked("shortest(2)", () -> x.shortest(2)), new Asked("overlap(1, 3)", () -> x.overlap(1, 3)),
+            new Asked("overlap(0, 1)", () -> x.overlap(0, 1)), new Asked("fewest(1, 2)", () -> x.fewest(1, 2)),
+            new Asked("sheet(0, -1, 0, 0)", () -> x.sheet(0, -1, 0, 0)),
+            new Asked("becomes(0, 0)", () -> x.becomes(0, 0)));
+    }
+
     private static List<Asked> refused(LongestTokens x) {
         return List.of(new Asked("goes(-1)", () -> x.goes(-1)), new Asked("goes(6)", () -> x.goes(6)),
             new Asked("becomes(6, 0)", () -> x.becomes(6, 0)), new Asked("becomes(0, 8)", () -> x.becomes(0, 8)),
@@ -558,21 +671,45 @@ final class TermEdges extends Edges {
             new Asked("years(1, 21)", () -> x.years(1, 21)), new Asked("count(9)", () -> x.count(9)));
     }
 
-    private interface Reader {
-        long read(LongestTokens x);
-    }
-
-    private static void emptiesText(String good, String wrong, Reader reader) {
+    private static void emptiesText(String good, String wrong, Call reader) {
         for (String text : new String[] {good, wrong}) {
             LongestTokens x = made("0:a", "a");
             Check.say(x, text);
-            reader.read(x);
+            reader.answer(x);
             due("count(5) behind " + text, x.count(5), 0);
             due("end(1) behind " + text, x.end(1), false);
         }
     }
 
     private void rows() {
+        says(TERMS, "ROW: numbers told last by a call that says so.");
+        edge("of each question its own numbers alone", () -> {
+            LongestTokens x = busy();
+            LongestTokens y = busy();
+            List<Asked> asked = questions(x);
+            List<Asked> once = questions(y);
+            for (int i = 0; i < asked.size(); i++) {
+                asked.get(i).call().answer();
+                asked.get(i).call().answer();
+                y.modes(-1);
+                once.get(i).call().answer();
+                boolean tells = !List.of("rule", "at", "token", "holds", "count", "row").contains(asked.get(i).name());
+                if (tells) {
+                    Check.row(asked.get(i).name() + " twice", x, Check.rowOf(y));
+                }
+            }
+        });
+        edge("of each change its own numbers alone", () -> {
+            LongestTokens x = made("0:a", "aaaa");
+            x.cut();
+            tells("becomes(3, 1)", x, x.becomes(3, 1), 4, 2, 2, 0);
+            x.cut();
+            tells("comes(4, 1)", x, x.comes(4, 1), 5, 4, 1, 0);
+            x.cut();
+            tells("goes(4)", x, x.goes(4), 4, 4, 0, 0);
+            x.cut();
+            tells("day()", x, Check.day(x, "d00"), 1, 0, 3);
+        });
         says(TERMS, "the ROW stays with each answer that tells of a refusal or that there is none,");
         edge("refusals", () -> {
             LongestTokens x = busy();
@@ -591,24 +728,25 @@ final class TermEdges extends Edges {
             Check.day(x, "x");
             Check.row("behind them", x, 1, 2, 3);
         });
-        edge("there is none", () -> {
-            LongestTokens x = made("0:a;1:b;0:a;0:b", "aba");
+        edge("false", () -> {
+            LongestTokens x = made("0:a", "aba");
             x.cut();
-            due("modes()", x.modes(3), -2);
-            due("by()", x.by(4), -2);
-            due("like()", x.like(0), -2);
-            due("longest()", x.longest(3, 0), -2);
-            due("shortest()", x.shortest(2), -2);
-            due("overlap()", x.overlap(0, 3), -2);
-            due("overlap() of two MODES", x.overlap(0, 1), -3);
-            due("becomes() as it is", x.becomes(0, 0), -2);
-            due("sheet() of n below 0", x.sheet(0, -1, 0, 0), -2);
-            due("fewest()", made("1:a", "a").fewest(0, 1), -2);
+            due("end(1)", x.end(1), false);
+            due("keep(2)", x.keep(2), false);
+            due("again(0)", x.again(0), false);
+            due("again(2)", x.again(2), false);
             Check.row("behind them", x, 1, 2, 3);
-            LongestTokens none = made("1:a", "ab");
-            none.cut();
-            due("fewest()", none.fewest(0, 1), -2);
-            Check.row("behind fewest()", none, 1, 2);
+        });
+        edge("there is none", () -> {
+            LongestTokens x = busy();
+            x.cut();
+            long[] row = Check.rowOf(x);
+            for (Asked asked : none(x)) {
+                asked.call().answer();
+                Check.row("behind " + asked.name(), x, row);
+            }
+        });
+        edge("comes() to 24", () -> {
             LongestTokens full = made("", LINE_24);
             full.modes(-1);
             due("comes() to 24", full.comes(0, 0), -3);

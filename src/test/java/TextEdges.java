@@ -176,7 +176,30 @@ final class TextEdges extends Edges {
             due("stuck()", x.stuck(), 1);
         });
         edge("one", () -> rulesTell("2:h", 1));
-        edge("of 80 signs", () -> rulesTell("0:a" + "*".repeat(77), 1));
+        edge("of 80 signs", () -> {
+            LongestTokens x = made("0:a" + "*".repeat(75) + ">3", "a");
+            tells("modes(0)", x, x.modes(0), 2, 0, 3);
+        });
+        edge("ten LETTERS in each MODE, told once more", () -> {
+            LongestTokens x = made("0:abcdefghab;1:bbbbbbbbbb;2:cccccccccc;3:dddddddddd", "abcdefghab");
+            for (String text : new String[] {"3:..........;2:..........;1:..........;0:abcdefghab",
+                "0:abcdefghab;1:bbbbbbbbbb;2:cccccccccc;3:dddddddddd"}) {
+                due("rules()", Check.rules(x, text), 4);
+                due("count(7)", x.count(7), 40);
+                due("cut()", x.cut(), 1);
+            }
+            Check.rules(x, "0:b;1:a");
+            due("matches(0, 1)", x.matches(0, 1), 2);
+            due("matches(1, 2)", x.matches(1, 2), 1);
+            due("states(0)", x.states(0), 1);
+        });
+        edge("no LETTER of the RULES that were is left", () -> {
+            LongestTokens x = made("0:a|b|c;1:.+", "bc");
+            Check.rules(x, "0:abc");
+            due("stands(0, 0, 1)", x.stands(0, 0, 1), 0);
+            due("states(0)", x.states(0), 3);
+            due("states(1)", x.states(1), 0);
+        });
         edge("the LINE is cut by them", () -> {
             LongestTokens x = made("0:a", "aa");
             Check.rules(x, "0:aa");
@@ -214,7 +237,19 @@ final class TextEdges extends Edges {
         edge("a ninth", () -> rulesTell("0:a;0:a;0:a;0:a;0:a;0:a;0:a;0:a;0:a", -32));
         edge("the text ends behind it", () -> rulesTell("0:a;0:a;0:a;0:a;0:a;0:a;0:a;0:a;", -32));
         edge("eight", () -> rulesTell("0:a;0:a;0:a;0:a;0:a;0:a;0:a;0:a", 8));
+        edge("eight behind nine", () -> {
+            LongestTokens x = new LongestTokens();
+            due("nine", Check.rules(x, "0:a;0:a;0:a;0:a;0:a;0:a;0:a;0:a;0:a"), -32);
+            due("eight", Check.rules(x, "0:a;0:a;0:a;0:a;0:a;0:a;0:a;0:a"), 8);
+            due("eight again", Check.rules(x, "0:a;0:a;0:a;0:a;0:a;0:a;0:a;0:a"), 8);
+        });
         says(4, "a ( by which more than 6 would be open;");
+        edge("six behind a text that left some open", () -> {
+            LongestTokens x = new LongestTokens();
+            due("left open", Check.rules(x, "0:((((((a"), -10);
+            due("six", Check.rules(x, "0:((((((a))))))"), 1);
+            due("none", Check.rules(x, "0:a<"), 1);
+        });
         edge("six", () -> rulesTell("0:((((((a))))))", 1));
         edge("seven", () -> rulesTell("0:(((((((a)))))))", -9));
         edge("six, twice", () -> rulesTell("0:((((((a))))))((((((b))))))", 1));
@@ -421,8 +456,8 @@ final class TextEdges extends Edges {
     }
 
     private void sheet() {
-        says(8, "bytes (kind 0), shorts (1), ints (2) of n entries f, f + step, .. (as ints; of bytes, shorts the lowest "
-            + "bits, with their sign),");
+        says(8, "bytes (kind 0), shorts (1), ints (2) of n entries f, f + step, .. (as ints; of bytes, shorts the "
+            + "lowest bits, with their sign),");
         edge("the kinds", () -> {
             sheetIs(0, 3, 1, 2, "bdf");
             sheetIs(1, 3, 1, 2, "bdf");
@@ -459,6 +494,13 @@ final class TextEdges extends Edges {
         });
         edge("none", () -> sheetIs(0, 0, 1, 1, ""));
         edge("24", () -> sheetIs(1, 24, 0, 1, LINE_24));
+        edge("the RULES stay", () -> {
+            LongestTokens x = made("0:a;0:b", "abc");
+            x.sheet(0, 2, 0, 1);
+            due("count(0) behind a sheet", x.count(0), 2);
+            x.sheet(3, 2, 0, 1);
+            due("count(0) behind a missing one", x.count(0), 2);
+        });
         says(8, "Nothing is kept of it that could be undone.");
         edge("a sheet", () -> {
             LongestTokens x = new LongestTokens();

@@ -15,19 +15,6 @@ final class TokenEdges extends Edges {
         twice();
     }
 
-    private interface Question {
-        long answer(int i);
-    }
-
-    /** What is asked with each of some wrong numbers, and that the ROW stays. */
-    private static void refuses(String name, LongestTokens x, Question question, long want, int... wrong) {
-        x.modes(-1);
-        for (int i : wrong) {
-            due(name + "(" + i + ")", question.answer(i), want);
-        }
-        Check.row(name + "() refused", x, 0);
-    }
-
     private void cut() {
         says(9, "The LINE is cut: how many TOKENS; the ROW: the place behind each.");
         edge("an empty LINE", () -> {
@@ -55,8 +42,8 @@ final class TokenEdges extends Edges {
     }
 
     private void token() {
-        says(10, "Of TOKEN k, what 0: its RULE (NONE: STUCK), 1: its first place, 2: the place behind it, 3: its REACH, "
-            + "4: the MODE in which it was cut, 5: how many MODES lie on one another behind it.");
+        says(10, "Of TOKEN k, what 0: its RULE (NONE: STUCK), 1: its first place, 2: the place behind it, 3: its "
+            + "REACH, 4: the MODE in which it was cut, 5: how many MODES lie on one another behind it.");
         edge("the first RULE and the last", () -> {
             LongestTokens x = made("0:a;0:b;0:c;0:d;0:e;0:f;0:g;0:h", "ah");
             due("token(0, 0)", x.token(0, 0), 0);
@@ -232,8 +219,8 @@ final class TokenEdges extends Edges {
     }
 
     private void like() {
-        says(15, "Of the LINE by the RULES kept under i: how many TOKENS, from the first one on, have the same RULE (its "
-            + "number) and the same place behind as by the RULES now;");
+        says(15, "Of the LINE by the RULES kept under i: how many TOKENS, from the first one on, have the same RULE "
+            + "(its number) and the same place behind as by the RULES now;");
         edge("all", () -> {
             LongestTokens x = keptUnder(0, "0:a;0:bb", "0:a;0:bb", "abb");
             tells("like(0)", x, x.like(0), 2, 2, 0);
