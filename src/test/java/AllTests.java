@@ -42,6 +42,7 @@ public final class AllTests {
         run("random runs against the model", ModelTests::randomRuns);
         run("random texts against the model", ModelTests::randomTexts);
         run("any arguments", ModelTests::anyArguments);
+        run("the readme is so", () -> ReadmeTests.readme(args));
         run("the source keeps to the language", () -> SourceTests.source(args));
         System.out.println(Check.asked() + " answers asked");
         System.out.println(passed + " passed, " + failed + " failed");
